@@ -158,6 +158,7 @@ public final class CornerstoneSought {
     if (!isEither(what)) return NO_SUCH;
     int place = now.heaviestLaden();
     if (what == 1 || place == NONE) return place;
+    // the search for the place has weighed all
     return now.loads[place];
   }
 
@@ -431,7 +432,7 @@ public final class CornerstoneSought {
       return true;
     }
     int kind = digitAt(text, at + 3);
-    if (kind >= KINDS || now.holds(p)) return false;
+    if (kind < 0 || kind >= KINDS || now.holds(p)) return false;
     now.lay(p, kind, digitAt(text, at + 4), kinds[kind]);
     return true;
   }
@@ -783,7 +784,7 @@ public final class CornerstoneSought {
     }
 
     private int columnWeight(int column) {
-      int places = 1 << column | 1 << column + COLUMNS | 1 << column + 2 * COLUMNS;
+      int places = (1 | 1 << COLUMNS | 1 << 2 * COLUMNS) << column;
       return weightOf(stones & places);
     }
 
@@ -808,7 +809,7 @@ public final class CornerstoneSought {
 
     int inHighestRow() {
       int row = highestRow();
-      return row == NONE ? NONE : Integer.bitCount(stones & GROUND << COLUMNS * row);
+      return row == NONE ? NONE : Integer.bitCount(stones & (GROUND << COLUMNS * row));
     }
   }
 
@@ -897,10 +898,11 @@ public final class CornerstoneSought {
 
     /** The choice behind a choice, by how many places it has and then by number. */
     private static int nextChoice(int choice) {
-      int last = (1 << Integer.bitCount(choice) + 1) - 1;
+      int last = (2 << Integer.bitCount(choice)) - 1;
       if (choice == 0) return last;
+      // the lowest run of ones: its highest moves up by one, the others to the bottom
       int carried = choice + (choice & -choice);
-      int moved = (choice ^ carried) >>> 2 + Integer.numberOfTrailingZeros(choice);
+      int moved = (choice ^ carried) >>> (2 + Integer.numberOfTrailingZeros(choice));
       return (carried | moved) <= ALL ? carried | moved : last;
     }
 

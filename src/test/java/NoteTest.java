@@ -88,6 +88,9 @@ public final class NoteTest {
     due("both there", Halls.of(COLUMN + "p08;p04;").propsWanted(), 0);
     due("four", Halls.of(COLUMN + "s0100;s0500;s0900;").propsWanted(), 16 + 32 + 256 + 512);
     due("five", Halls.of(COLUMN + "s0100;s0500;s0900;s0200;s0600;").propsWanted(), -4);
+    String top = "p04;p05;p06;p07;s0400;s0500;s0600;s0700;s0800;s0900;s1000;s1100;";
+    due("the last four", Halls.of(top).propsWanted(), 256 + 512 + 1024 + 2048);
+    due("a prop on the ground is no matter", Halls.of("p00;" + COLUMN).propsWanted(), 16 + 256);
     due("plaster on two", Halls.of("s0000;s0400;s0530;").propsWanted(), 16 + 32);
     CornerstoneSought x = Halls.of(COLUMN);
     x.propsWanted();

@@ -46,11 +46,11 @@ public final class AnyInputTest {
       Method method = face[random.nextInt(face.length)];
       Object[] numbers = someNumbers(random, method.getParameterCount());
       String call = "seed " + seed + ": " + method.getName() + Arrays.toString(numbers);
-      String ahead = told(x);
+      String ahead = Halls.whole(x);
       long answer = answer(x, method, numbers, call);
       CHECKS.due(call + " again", answer(again, method, numbers, call), answer);
       boolean stays = !ACTS.contains(method.getName()) || answer < 0;
-      if (stays && !told(x).equals(ahead)) CHECKS.due(call + " changed what it may not", 1, 0);
+      if (stays && !Halls.whole(x).equals(ahead)) CHECKS.due(call + " changed what it may not", 1, 0);
     }
   }
 
@@ -75,23 +75,5 @@ public final class AnyInputTest {
       if (!told) CHECKS.due(call + " threw " + e.getCause(), 1, 0);
       return -999;
     }
-  }
-
-  /** All that can be told of an object but its image. */
-  private static String told(CornerstoneSought x) {
-    StringBuilder all = new StringBuilder();
-    for (int what = 0; what <= 5; what++) all.append(x.count(what)).append(' ');
-    for (int p = 0; p < 12; p++) {
-      all.append(x.stone(p, 0)).append(',').append(x.stone(p, 1)).append(' ');
-    }
-    for (int d = 0; d < 8; d++) {
-      all.append(x.cost(d)).append(x.toss(d)).append(':');
-      for (int i = 0; i < 100; i++) {
-        String element = Checks.elementTold(x, d, i);
-        if (element.equals("ISE")) break;
-        all.append(element).append(',');
-      }
-    }
-    return all.toString();
   }
 }

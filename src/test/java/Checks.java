@@ -29,6 +29,10 @@ final class Checks {
     }
   }
 
+  int made() {
+    return made;
+  }
+
   void end() {
     System.out.println(made + " answers looked at, " + wrong + " not as due");
     if (wrong != 0) System.exit(1);

@@ -30,4 +30,22 @@ final class Halls {
     x.keep(TEXT, 1, kind, figure);
     return x.lays(TEXT, p);
   }
+
+  /** All that can be told of an object but its image. */
+  static String whole(CornerstoneSought x) {
+    StringBuilder all = new StringBuilder();
+    for (int what = 0; what <= 5; what++) all.append(x.count(what)).append(' ');
+    for (int p = 0; p < 12; p++) {
+      all.append(x.stone(p, 0)).append(',').append(x.stone(p, 1)).append(' ');
+    }
+    for (int d = 0; d < 8; d++) {
+      all.append(x.cost(d)).append(x.toss(d)).append(':');
+      for (int i = 0; i < 100; i++) {
+        String element = Checks.elementTold(x, d, i);
+        if (element.equals("ISE")) break;
+        all.append(element).append(',');
+      }
+    }
+    return all.toString();
+  }
 }

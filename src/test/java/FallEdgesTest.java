@@ -11,6 +11,7 @@ public final class FallEdgesTest {
     EDGES.test(7, "how many FALL then (it aside)", FallEdgesTest::takenIsNotCounted);
     EDGES.test(7, "by how many STEPS", FallEdgesTest::stepsFromNone);
     EDGES.test(7, "In mind, one STONE taken out", FallEdgesTest::fallsInMind);
+    EDGES.test(7, "what falls then, step by step", FallEdgesTest::askedAnewBehindEachAct);
 
     EDGES.test(8, "CORNERSTONES (what 0), SAFE (1), bits. -1.", FallEdgesTest::cornersRefused);
     EDGES.test(8, "lets all others FALL (one other at least)", FallEdgesTest::cornerNeedsOneOther);
@@ -95,7 +96,43 @@ public final class FallEdgesTest {
     String ahead = Halls.whole(x);
     for (int what = 0; what <= 2; what++) x.falls(0, what);
     due("all as it was", Halls.whole(x).equals(ahead) ? 1 : 0, 1);
-    due("loads, too", x.stone(0, 4), 4);
+    due("loads, too", thoughtOf().stone(0, 4), 4);
+    due("what more it would bear", thoughtOf().more(0), 16);
+    due("where most load is", thoughtOf().mostLoad(1), 0);
+    due("the most load", thoughtOf().mostLoad(0), 4);
+    due("all loads", thoughtOf().count(4), 6);
+  }
+
+  /** A column whose first question was of one taken out. */
+  private static CornerstoneSought thoughtOf() {
+    CornerstoneSought x = column();
+    x.falls(0, 0);
+    return x;
+  }
+
+  private static void askedAnewBehindEachAct() {
+    CornerstoneSought x = column();
+    due("a column", x.falls(0, 0), 2);
+    x.props(4);
+    due("with a prop", x.falls(0, 0), 0);
+    x.image();
+    x.props(4);
+    due("without it", x.falls(0, 0), 2);
+    x.restore();
+    due("with it again", x.falls(0, 0), 0);
+    due("a prop by a text", Halls.told(x, "p04;"), 1);
+    due("without it by a text", x.falls(0, 0), 2);
+    x.takes(8);
+    due("without the top one", x.falls(0, 0), 1);
+    x = Halls.of("s0000;s0200;s0560;");
+    due("a beam that shifts", x.falls(0, 0), 0);
+    Halls.told(x, "x02;s0230;x05;s0561;");
+    due("a heavier one onto plaster", x.falls(0, 0), 2);
+    x = Halls.of("s0000;s0200;s0560;");
+    due("none by the beam", x.falls(0, 0), 0);
+    x.takes(5);
+    Halls.lay(x, 5, 2, 0);
+    due("an arch in its place", x.falls(0, 0), 1);
   }
 
   private static void cornersRefused() {
@@ -129,6 +166,7 @@ public final class FallEdgesTest {
   }
 
   private static void worstOfSeveral() {
+    due("place 0", column().worst(), 0);
     due("none falls with any", Halls.of("s0200;s0300;").worst(), 2);
     due("as many with either", Halls.of("s0200;s0600;s0300;s0700;").worst(), 2);
     due("more with the latter", Halls.of("s0200;s0300;s0700;").worst(), 3);
@@ -165,6 +203,9 @@ public final class FallEdgesTest {
     due("the other", x.together(1, 1), 103);
     x = Halls.of("p09;p11;s0900;s1100;s1030;");
     due("of two digits each", x.together(1, 1), 911);
+    due("one beside the other", Halls.of("s0000;s0100;s0560;").together(1, 1), 1);
+    due("one of them below", Halls.of("s0100;s0200;s0560;").together(1, 1), 102);
+    due("one such pair", Halls.of("s0100;s0200;s0560;").together(1, 0), 1);
     due("none there", new CornerstoneSought().together(1, 0), 0);
     due("no first there", new CornerstoneSought().together(1, 1), -4);
     due("one there", Halls.of("s0000;").together(1, 1), -4);
@@ -236,6 +277,7 @@ public final class FallEdgesTest {
   }
 
   private static void longestOfSeveral() {
+    due("place 0", Halls.of("s0000;s0100;").longest(1), 0);
     due("any first", Halls.of("s0100;s0200;s0300;").longest(1), 1);
     due("the top one", column().longest(1), 8);
     due("the top one, or one beside", Halls.of(COLUMN + "s0300;").longest(1), 3);

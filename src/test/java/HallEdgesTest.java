@@ -10,6 +10,7 @@ public final class HallEdgesTest {
     EDGES.test(1, "each has a PROP or not (not at first)", HallEdgesTest::noPlaceIsProppedAtFirst);
     EDGES.test(1, "SHELVES 0 .. 7 each hold nothing (at first)", HallEdgesTest::shelvesAreEmptyAtFirst);
     EDGES.test(1, "A new object", HallEdgesTest::newObjectsShareNothing);
+    EDGES.test(1, "An object is used for at most 512 calls", HallEdgesTest::callsTo512);
 
     EDGES.test(2, "STATEMENTS, each with \";\" behind", HallEdgesTest::statementNeedsItsEnd);
     EDGES.test(2, "one at least", HallEdgesTest::textNeedsOneStatement);
@@ -97,6 +98,18 @@ public final class HallEdgesTest {
     due("its image", y.restore(), -3);
     y.props(0);
     due("the former keeps its own", x.count(2), 1 << 11);
+  }
+
+  private static void callsTo512() {
+    CornerstoneSought x = new CornerstoneSought();
+    for (int p = 0; p < 12; p++) Halls.lay(x, p, p < 4 ? 1 : 0, 0);
+    // 24 calls until here; each turn of a prop makes all be thought out anew
+    for (int i = 0; i < 243; i++) {
+      due("call " + (25 + 2 * i), x.props(8), 0);
+      due("call " + (26 + 2 * i), x.bombs(10, 12, 0), 282429536481L);
+    }
+    due("call 511", x.takes(0), 1);
+    due("call 512", x.count(1), 0xfee);
   }
 
   // ---- texts
@@ -241,6 +254,9 @@ public final class HallEdgesTest {
     due("the prop is there", x.count(2), 1 << 11);
     due("as heavy", x.count(3), 4);
     due("as laden", x.count(4), 3);
+    due("plaster and what it hangs on", Halls.told(x, "p04;x04;s0430;x11;"), -2014);
+    due("it hangs on it yet", Halls.lay(x, 5, 3, 0), 0);
+    x.takes(5);
     x.image();
     Halls.told(x, "x00;x00;");
     x.takes(0);

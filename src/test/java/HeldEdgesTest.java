@@ -27,6 +27,10 @@ public final class HeldEdgesTest {
     EDGES.test(4, "it lies on none", HeldEdgesTest::stuckLoadsNone);
     EDGES.test(4, "others not", HeldEdgesTest::othersNeedOneBelow);
     EDGES.test(4, "COLUMN modulo 4", HeldEdgesTest::rowsDoNotGoRound);
+    EDGES.test(4, "PLACES 0 .. 11, four in a row: ROW by 4, cut (0 on the ground), COLUMN modulo 4",
+        HeldEdgesTest::whatHoldsEachPlace);
+    EDGES.test(4, "PLASTER (MOUSE, too), if a PLACE beside its own holds one that is neither",
+        HeldEdgesTest::whatLayThereBeforeIsNoMatter);
     EDGES.test(4, "all with LOAD above what they BEAR", HeldEdgesTest::bearsJustAsMuch);
     EDGES.test(4, "FALL at once", HeldEdgesTest::allFallAtOnce);
     EDGES.test(4, "again and again till none does", HeldEdgesTest::againTillNoneFalls);
@@ -179,6 +183,50 @@ public final class HeldEdgesTest {
     CornerstoneSought x = Halls.of("s0300;s0100;s0500;s0861;");
     due("a beam in column 0 lies on the right one", x.stone(5, 4), 4);
     due("not on the end of the row below", x.stone(3, 4), 0);
+  }
+
+  /** One laid at a place without a prop, with stones by props at two others (or twice at one). */
+  private static int laidBy(int q, int r, int p, int kind) {
+    CornerstoneSought x = new CornerstoneSought();
+    x.props(q);
+    Halls.lay(x, q, STONE, 0);
+    if (q != r) {
+      x.props(r);
+      Halls.lay(x, r, STONE, 0);
+    }
+    return Halls.lay(x, p, kind, 0);
+  }
+
+  private static void whatHoldsEachPlace() {
+    for (int p = 4; p < 12; p++) {
+      int column = p % 4;
+      for (int q = 0; q < 12; q++) {
+        if (q == p) continue;
+        int below = p / 4 - q / 4;
+        int beside = Math.abs(column - q % 4);
+        boolean under = below == 1 && beside == 0;
+        boolean next = below == 0 && beside == 1;
+        boolean slant = below == 1 && beside == 1;
+        due("plaster at " + p + " by " + q, laidBy(q, q, p, PLASTER), under || next ? 0 : 1);
+        due("a mouse at " + p + " by " + q, laidBy(q, q, p, MOUSE), under || next ? 0 : 1);
+        due("a beam at " + p + " by " + q, laidBy(q, q, p, BEAM), under || slant ? 0 : 1);
+        due("a stone at " + p + " by " + q, laidBy(q, q, p, STONE), under ? 0 : 1);
+        for (int r = q + 1; r < 12; r++) {
+          if (r == p) continue;
+          boolean both = slant && q % 4 == column - 1 && r == q + 2 && r % 4 == column + 1;
+          boolean held = under || r == p - 4 || both;
+          due("an arch at " + p + " by " + q + " and " + r, laidBy(q, r, p, ARCH), held ? 0 : 1);
+        }
+      }
+    }
+  }
+
+  private static void whatLayThereBeforeIsNoMatter() {
+    falls("p04;s0400;x04;s0430;", 5, STUCK);
+    falls("p04;s0400;x04;s0470;", 5, STUCK);
+    falls("p04;s0400;x04;", 5, STUCK);
+    stands("p04;s0430;x04;s0400;", 5, STUCK);
+    falls("p07;s0700;x07;s0730;", 6, STUCK);
   }
 
   /** Lays a load on place 1, the heaviest part first; the last may be too much. */

@@ -1,14 +1,30 @@
 import java.io.IOException;
+import java.lang.reflect.Constructor;
+import java.lang.reflect.Field;
+import java.lang.reflect.Method;
+import java.lang.reflect.Modifier;
 import java.nio.file.Files;
 import java.nio.file.Path;
+import java.util.Arrays;
 import java.util.Set;
 import java.util.TreeSet;
 import java.util.regex.Matcher;
 import java.util.regex.Pattern;
 
-/** What of LANGUAGE.md can be seen in the text of the class. */
+/** The public face, and what of LANGUAGE.md can be seen in the text of the class. */
 public final class LanguageTest {
   private static final Checks CHECKS = new Checks();
+  private static final String[] FACE = {
+    "int hall(int)", "int stone(int, int)", "int lays(int, int)", "int takes(int)", "int props(int)",
+    "int falls(int, int)", "int corners(int)", "int worst()", "int together(int, int)", "int cut(int)",
+    "int toGround()", "int longest(int)", "int game(int)", "long bombs(int, int, int)",
+    "int mostLoad(int)", "int which(int, int)", "int tapNext(int)", "int propsWanted()", "int more(int)",
+    "int lean(int)", "int tins(int, int)", "int forged(int)", "int judge(int)",
+    "int raids(int, int, int)", "int felled(int)", "int twins()", "int highest(int)",
+    "int depends(int)", "int image()", "int restore()", "int count(int)",
+    "int keep(int, int, int, int)", "int row(int, int, int)", "int put(int, int, int)",
+    "long element(int, int)", "int copy(int, int, int, int, int)", "int cost(int)", "int toss(int)"
+  };
   private static final Path CLASS = Path.of("src/main/java/CornerstoneSought.java");
 
   public static void main(String[] args) throws IOException {
@@ -30,11 +46,53 @@ public final class LanguageTest {
     none(code, "loop without a bound", "while *\\( *true *\\)|for *\\( *;[^;]*;");
     none(code, "public member inside", "(?m)^ {4,}public ");
     none(code, "static field that is not final", "\\bstatic (?!final|class|int \\w+\\(|long \\w+\\(|boolean \\w+\\()");
+    onlyTheFaceIsSeen();
+    classesInside();
     onlyImport(whole);
     fewClasses(code);
     shortMethods(whole);
     CHECKS.due("bytes above 127", whole.chars().filter(c -> c > 127).count(), 0);
     CHECKS.end();
+  }
+
+  private static void onlyTheFaceIsSeen() {
+    Class<?> seen = CornerstoneSought.class;
+    Set<String> face = new TreeSet<>(Arrays.asList(FACE));
+    Set<String> names = new TreeSet<>();
+    for (String call : FACE) names.add(call.replaceAll("^\\w+ |\\(.*", ""));
+    CHECKS.due("public and final", seen.getModifiers(), Modifier.PUBLIC | Modifier.FINAL);
+    for (Method m : seen.getDeclaredMethods()) {
+      if (Modifier.isPrivate(m.getModifiers())) {
+        CHECKS.due("private " + m.getName() + " as a public one", names.contains(m.getName()) ? 1 : 0, 0);
+        continue;
+      }
+      String types = Arrays.toString(m.getParameterTypes()).replaceAll("[\\[\\]]", "");
+      String call = m.getReturnType() + " " + m.getName() + "(" + types + ")";
+      CHECKS.due(call + " is of the face", face.remove(call) ? 1 : 0, 1);
+      CHECKS.due(call + " is public", m.getModifiers(), Modifier.PUBLIC);
+    }
+    CHECKS.due("lacking " + face, face.size(), 0);
+    for (Field f : seen.getDeclaredFields()) {
+      CHECKS.due("private " + f.getName(), Modifier.isPrivate(f.getModifiers()) ? 1 : 0, 1);
+    }
+    Constructor<?>[] made = seen.getDeclaredConstructors();
+    CHECKS.due("constructors", made.length, 1);
+    CHECKS.due("its arguments", made[0].getParameterCount(), 0);
+    CHECKS.due("it is public", made[0].getModifiers(), Modifier.PUBLIC);
+  }
+
+  private static void classesInside() {
+    for (Class<?> inside : CornerstoneSought.class.getDeclaredClasses()) {
+      int seenAs = inside.getModifiers() & (Modifier.PUBLIC | Modifier.PROTECTED);
+      CHECKS.due(inside.getName() + " is not seen", seenAs, 0);
+      CHECKS.due(inside.getName() + " is static", Modifier.isStatic(inside.getModifiers()) ? 1 : 0, 1);
+      int fields = 0;
+      for (Field f : inside.getDeclaredFields()) if (!Modifier.isStatic(f.getModifiers())) fields++;
+      CHECKS.due(inside.getName() + " has some twenty fields at most", fields <= 20 ? 1 : 0, 1);
+      for (Method m : inside.getDeclaredMethods()) {
+        CHECKS.due(m.getName() + " has seven parameters at most", m.getParameterCount() <= 7 ? 1 : 0, 1);
+      }
+    }
   }
 
   private static void none(String code, String what, String pattern) {

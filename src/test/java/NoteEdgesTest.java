@@ -133,7 +133,15 @@ public final class NoteEdgesTest {
     due("as told twice", heard(COLUMN, 4, 50, 4, 50).which(ROW, 0), 17);
     due("told in two ways", heard(COLUMN, 4, 50, 4, 14).which(ROW, 0), 0);
     due("all as it is now", heard(COLUMN, 0, 26, 4, 20, 8, 14).which(ROW, 1), 0);
-    CornerstoneSought x = heard("s0300;p11;s1100;");
+    CornerstoneSought x = Halls.of(COLUMN);
+    int[][] rows = {{0, 14}, {0, 20}, {0, 14}, {0, 26}, {0, 50}};
+    int[] found = {16, 256, 16, 0, 1};
+    for (int i = 0; i < rows.length; i++) {
+      Halls.row(x, ROW, 0, rows[i]);
+      x.falls(i % 2 * 4, 0);
+      due("one row behind the other, " + i, x.which(ROW, 0), found[i]);
+    }
+    x = heard("s0300;p11;s1100;");
     due("3 and 11", x.which(ROW, 0), 8 + 2048);
     due("two", x.which(ROW, 1), 2);
   }
@@ -178,6 +186,9 @@ public final class NoteEdgesTest {
     due("three kinds at 0, two at 4", heard(COLUMN).tapNext(ROW), 0);
     due("two kinds at 0, four at 1", heard("s0000;s0100;s0500;s0900;").tapNext(ROW), 1);
     due("four kinds at 1 and at 2", heard("s0100;s0500;s0900;s0200;s0600;s1000;").tapNext(ROW), 1);
+    String two = COLUMN + "s0100;s0500;s0900;";
+    due("four kinds at 0 and at 1", heard(two).tapNext(ROW), 0);
+    due("three at 1 of those that could be", heard(two, 0, 26).tapNext(ROW), 1);
     due("two kinds at 0, three at 7", heard("s0000;p07;s0700;s1100;").tapNext(ROW), 7);
   }
 

@@ -415,6 +415,16 @@ public final class TakingEdgesTest {
     due("all as it was again", stonesOf(x).equals(stones) ? 1 : 0, 1);
     x = Halls.of("p04;s0400;");
     x.image();
+    Halls.told(x, "x04;s0430;");
+    x.restore();
+    due("plaster hangs on it again", Halls.lay(x, 5, 3, 0), 0);
+    x = Halls.of("p04;s0430;");
+    x.image();
+    Halls.told(x, "x04;s0400;");
+    x.restore();
+    due("plaster does not hang on it again", Halls.lay(x, 5, 3, 0), 1);
+    x = Halls.of("p04;s0400;");
+    x.image();
     Halls.told(x, "p04;s0000;");
     x.restore();
     due("the prop is back", x.falls(4, 0) + x.count(2), 16);

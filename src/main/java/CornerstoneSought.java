@@ -901,8 +901,9 @@ public final class CornerstoneSought {
       int last = (2 << Integer.bitCount(choice)) - 1;
       if (choice == 0) return last;
       // the lowest run of ones: its highest moves up by one, the others to the bottom
-      int carried = choice + (choice & -choice);
-      int moved = (choice ^ carried) >>> (2 + Integer.numberOfTrailingZeros(choice));
+      int lowest = choice & -choice;
+      int carried = choice + lowest;
+      int moved = (choice ^ carried) >>> (2 + Integer.bitCount(lowest - 1));
       return (carried | moved) <= ALL ? carried | moved : last;
     }
 

@@ -48,6 +48,7 @@ public final class LanguageTest {
     none(code, "static field that is not final", "\\bstatic (?!final|class|int \\w+\\(|long \\w+\\(|boolean \\w+\\()");
     onlyTheFaceIsSeen();
     classesInside();
+    onlyTheLibraryThatStands(code);
     onlyImport(whole);
     fewClasses(code);
     shortMethods(whole);
@@ -58,8 +59,7 @@ public final class LanguageTest {
   private static void onlyTheFaceIsSeen() {
     Class<?> seen = CornerstoneSought.class;
     Set<String> face = new TreeSet<>(Arrays.asList(FACE));
-    Set<String> names = new TreeSet<>();
-    for (String call : FACE) names.add(call.replaceAll("^\\w+ |\\(.*", ""));
+    Set<String> names = namesOfTheFace();
     CHECKS.due("public and final", seen.getModifiers(), Modifier.PUBLIC | Modifier.FINAL);
     for (Method m : seen.getDeclaredMethods()) {
       if (Modifier.isPrivate(m.getModifiers())) {
@@ -81,7 +81,14 @@ public final class LanguageTest {
     CHECKS.due("it is public", made[0].getModifiers(), Modifier.PUBLIC);
   }
 
+  private static Set<String> namesOfTheFace() {
+    Set<String> names = new TreeSet<>();
+    for (String call : FACE) names.add(call.replaceAll("^\\w+ |\\(.*", ""));
+    return names;
+  }
+
   private static void classesInside() {
+    Set<String> names = namesOfTheFace();
     for (Class<?> inside : CornerstoneSought.class.getDeclaredClasses()) {
       int seenAs = inside.getModifiers() & (Modifier.PUBLIC | Modifier.PROTECTED);
       CHECKS.due(inside.getName() + " is not seen", seenAs, 0);
@@ -90,9 +97,27 @@ public final class LanguageTest {
       for (Field f : inside.getDeclaredFields()) if (!Modifier.isStatic(f.getModifiers())) fields++;
       CHECKS.due(inside.getName() + " has some twenty fields at most", fields <= 20 ? 1 : 0, 1);
       for (Method m : inside.getDeclaredMethods()) {
+        CHECKS.due(m.getName() + " inside as a public one", names.contains(m.getName()) ? 1 : 0, 0);
         CHECKS.due(m.getName() + " has seven parameters at most", m.getParameterCount() <= 7 ? 1 : 0, 1);
       }
     }
+  }
+
+  /** Static calls of the library, and objects that are made of it, as LANGUAGE.md lists them. */
+  private static void onlyTheLibraryThatStands(String code) {
+    Set<String> stand = Set.of(
+        "Integer.bitCount", "Long.bitCount", "Math.max", "Math.min", "Arrays.fill",
+        "System.arraycopy");
+    Matcher call = Pattern.compile("\\b[A-Z][a-z]\\w*\\.[a-z]\\w*(?= *\\()").matcher(code);
+    while (call.find()) CHECKS.due(call.group() + " stands", stand.contains(call.group()) ? 1 : 0, 1);
+    Set<String> made = new TreeSet<>(Set.of(
+        "IllegalArgumentException", "IllegalStateException", "UnsupportedOperationException",
+        "int", "long"));
+    for (Class<?> inside : CornerstoneSought.class.getDeclaredClasses()) {
+      made.add(inside.getSimpleName());
+    }
+    Matcher object = Pattern.compile("\\bnew (\\w+)").matcher(code);
+    while (object.find()) CHECKS.due("new " + object.group(1), made.contains(object.group(1)) ? 1 : 0, 1);
   }
 
   private static void none(String code, String what, String pattern) {
